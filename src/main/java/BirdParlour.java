@@ -106,7 +106,6 @@ public final class BirdParlour {
         points--;
       }
       put(marks, place, 0);
-      put(lifts, place, 0);
       draw(places);
     }
 
@@ -184,7 +183,6 @@ public final class BirdParlour {
     }
 
     void startAnew(long shaft) {
-      isEngaged = true;
       shaftAtStart = shaft;
       gone = 0;
     }

@@ -167,6 +167,11 @@ public final class BirdsTest {
     }
     Check.due("11: the only one", x.point(0, 2, 11, -1), 0);
     Check.due("11: no lift without points", x.lift(0, 2, 11), 0);
+    x.point(0, 2, 5, 60);
+    Check.due("11: the only one, of a lift", x.point(0, 2, 5, -1), 0);
+    for (int place = 0; place < 12; place++) {
+      Check.due("11: no lift without points", x.lift(0, 2, place), 0);
+    }
   }
 
   private static void bird() {
