@@ -144,19 +144,31 @@ public final class AheadTest {
     Check.due("22: again", x.digest(), d);
   }
 
-  private static void digestTellsAll() {
+  private static BirdParlour withCams(int pins) {
     BirdParlour x = new BirdParlour();
     x.addSpring(30);
     x.wind(0, 150000);
     x.addBird(0, 1, 96, 12, 1);
     x.addBird(0, 1, 9, 12, 5);
     for (int k = 0; k < 24; k++) {
-      x.pin(0, 4 * k, k % 6);
-      x.pin(1, k % 9, k % 6);
       x.point(1, k % 3, k / 3, 5 * k % 101);
     }
-    for (int k = 0; k < 40; k++) {
-      x.run(1);
+    for (int k = 0; k < pins; k++) {
+      x.pin(0, 4 * k, k % 6);
+      x.pin(1, k % 9, k % 6);
+    }
+    return x;
+  }
+
+  private static void digestTellsAll() {
+    for (int ticks = 1; ticks <= 2; ticks++) {
+      BirdParlour x = withCams(24);
+      x.run(ticks);
+      Check.due("22: of all that is told", x.digest(), told(x));
+    }
+    for (int ticks = 1; ticks <= 40; ticks++) {
+      BirdParlour x = withCams(1);
+      x.run(ticks);
       Check.due("22: of all that is told", x.digest(), told(x));
     }
   }
@@ -184,7 +196,8 @@ public final class AheadTest {
         d = mix(d, x.lift(bird, cam, -1));
       }
     }
-    for (int index = 0; index < Math.min(250, x.count(4)); index++) {
+    int kept = Math.min(250, x.count(4));
+    for (int index = 0; index < kept; index++) {
       for (int what = 0; what <= 3; what++) {
         d = mix(d, x.sung(index, what));
       }
