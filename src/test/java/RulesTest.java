@@ -6,6 +6,7 @@ import java.lang.reflect.Modifier;
 import java.nio.charset.StandardCharsets;
 import java.nio.file.Files;
 import java.nio.file.Path;
+import java.util.List;
 import java.util.Set;
 import java.util.TreeSet;
 
@@ -47,6 +48,7 @@ public final class RulesTest {
   public static void main(String[] args) throws IOException {
     face();
     names();
+    limits();
     source();
     Check.end("RulesTest");
   }
@@ -103,6 +105,45 @@ public final class RulesTest {
       }
     }
     Check.due("classes are at most 12", classes <= 12, true);
+  }
+
+  private static void limits() throws IOException {
+    fields(BirdParlour.class);
+    for (Class<?> inside : BirdParlour.class.getDeclaredClasses()) {
+      fields(inside);
+      for (Constructor<?> maker : inside.getDeclaredConstructors()) {
+        Check.due(maker + " has too many parameters", maker.getParameterCount() > 7, false);
+      }
+    }
+    lengths(Files.readAllLines(SOURCE, StandardCharsets.ISO_8859_1));
+  }
+
+  private static void fields(Class<?> type) {
+    int own = 0;
+    for (Field f : type.getDeclaredFields()) {
+      if (Modifier.isStatic(f.getModifiers())) {
+        Check.due(f + " is final", Modifier.isFinal(f.getModifiers()), true);
+      } else {
+        own++;
+      }
+    }
+    Check.due(type + " has at most 20 fields", own <= 20, true);
+  }
+
+  /** A method ends at the first closing brace that stands as far in as its own first line. */
+  private static void lengths(List<String> lines) {
+    for (int from = 0; from < lines.size(); from++) {
+      String line = lines.get(from);
+      String margin = line.substring(0, line.length() - line.stripLeading().length());
+      if (line.contains("(") && (margin.length() == 2 || margin.length() == 4)) {
+        int to = from;
+        while (to < lines.size() && !lines.get(to).equals(margin + "}")) {
+          to++;
+        }
+        boolean isMethod = to < lines.size() && !line.endsWith(";");
+        Check.due("too long: " + line, isMethod && to - from + 1 > 60, false);
+      }
+    }
   }
 
   private static void source() throws IOException {
